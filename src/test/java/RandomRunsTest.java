@@ -4,7 +4,7 @@ import java.util.Random;
 
 /** Random runs of calls on LateBinder and on Model: each answer, and all that can be asked, is alike. */
 public final class RandomRunsTest {
-    private static final int RUNS = 150;
+    private static final int RUNS = 100;
     private static final int CALLS = 90;
 
     private final Random random;
