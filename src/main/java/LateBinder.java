@@ -1367,7 +1367,7 @@ public final class LateBinder {
         // ---- letting go
 
         /** It is DEFERRED behind this; the caller makes the one that the call tells IDLE or AWAY. */
-        void letGo(int d, int depth) {
+        private void letGo(int d, int depth) {
             if (depth > DEVICES || state[d] != BOUND) {
                 return;
             }

@@ -63,108 +63,97 @@ public final class BoardTextTest {
         due.is("count(10)", x.count(10), 0);
     }
 
-    /** The | stands where the FAULT is. */
-    private static void fault(int kind, String marked) {
-        int place = marked.indexOf('|');
-        String text = marked.replace("|", "");
-        LateBinder x = new LateBinder();
-        due.is("board() of " + text, Due.tell(x, text), -2 - (8 * place + kind));
-        due.is("count(10)", x.count(10), 0);
-        due.is("count(0)", x.count(0), 0);
-        due.is("count(1)", x.count(1), 0);
-    }
-
     private static void faultsOfTokens() {
         due.part("4 board, TOKENS");
-        fault(1, "|;");
-        fault(1, " \n |;");
-        fault(1, "|x a :x;");
-        fault(1, "|7;");
-        fault(1, "|:x;");
-        fault(1, "device a :x;|;");
-        fault(1, "device |abcdefgh :x;");
-        fault(1, "device |a1 :x;");
-        fault(1, "device a|B :x;");
-        fault(1, "|Device a :x;");
-        fault(1, "device|\ta :x;");
-        fault(1, "device a :x|\r;");
-        fault(1, "device a :x|\u00e1;");
-        fault(1, "device a :x|\0;");
-        fault(1, "device a |: x;");
-        fault(1, "device a |:;");
-        fault(1, "device a |:xxxxxxxxx;");
-        fault(1, "device a |:********x;");
-        fault(1, "device a :x |:y;");
-        fault(1, "device a :x|");
-        fault(1, "device a :x \n |");
-        fault(1, "device|");
-        fault(1, "device a|");
-        fault(1, "device a :x;driver p :x map|");
-        fault(1, "device a |;");
+        due.fault(1, "|;");
+        due.fault(1, " \n |;");
+        due.fault(1, "|x a :x;");
+        due.fault(1, "|7;");
+        due.fault(1, "|:x;");
+        due.fault(1, "device a :x;|;");
+        due.fault(1, "device |abcdefgh :x;");
+        due.fault(1, "device |a1 :x;");
+        due.fault(1, "device a|B :x;");
+        due.fault(1, "|Device a :x;");
+        due.fault(1, "device|\ta :x;");
+        due.fault(1, "device a :x|\r;");
+        due.fault(1, "device a :x|\u00e1;");
+        due.fault(1, "device a :x|\0;");
+        due.fault(1, "device a |: x;");
+        due.fault(1, "device a |:;");
+        due.fault(1, "device a |:xxxxxxxxx;");
+        due.fault(1, "device a |:********x;");
+        due.fault(1, "device a :x |:y;");
+        due.fault(1, "device a :x|");
+        due.fault(1, "device a :x \n |");
+        due.fault(1, "device|");
+        due.fault(1, "device a|");
+        due.fault(1, "device a :x;driver p :x map|");
+        due.fault(1, "device a |;");
     }
 
     private static void faultsOfDevices() {
         due.part("4 board, DEVICES");
         for (String told : new String[] {"device", "driver", "in", "needs", "or", "map", "line", "get", "give", "break"}) {
-            fault(1, "device |" + told + " :x;");
-            fault(1, "driver |" + told + " :x;");
-            fault(1, "device a :x in |" + told + ";");
-            fault(1, "device a :x needs |" + told + ";");
-            fault(1, "driver p :x get |" + told + ";");
-            fault(1, "driver p :x give |" + told + ";");
+            due.fault(1, "device |" + told + " :x;");
+            due.fault(1, "driver |" + told + " :x;");
+            due.fault(1, "device a :x in |" + told + ";");
+            due.fault(1, "device a :x needs |" + told + ";");
+            due.fault(1, "driver p :x get |" + told + ";");
+            due.fault(1, "driver p :x give |" + told + ";");
         }
-        fault(1, "device |:x;");
-        fault(1, "device a |x1;");
-        fault(2, "device a |:x*;");
-        fault(2, "device a |:?;");
-        fault(3, "device a :x;device |a :y;");
-        fault(3, "device a :x;driver |a :y;");
-        fault(3, "driver p :x;device |p :y;");
-        fault(3, "driver p :x;driver |p :y;");
-        fault(3, "device a :x in |a;");
-        fault(3, "device a :x in |b;device b :y;");
-        fault(3, "driver p :x;device a :x in |p;");
-        fault(1, "device a :x in |7;");
-        fault(1, "device a :x;device b :y in a |in a;");
-        fault(1, "device a :x;device b :y needs u |in a;");
-        fault(1, "device a :x needs |7;");
-        fault(1, "device a :x needs u |u;");
-        fault(1, "device a :x |or :y;");
-        fault(1, "device a :x |map 1;");
-        fault(4, "device a :x needs u needs v needs u |needs u;");
+        due.fault(1, "device |:x;");
+        due.fault(1, "device a |x1;");
+        due.fault(2, "device a |:x*;");
+        due.fault(2, "device a |:?;");
+        due.fault(3, "device a :x;device |a :y;");
+        due.fault(3, "device a :x;driver |a :y;");
+        due.fault(3, "driver p :x;device |p :y;");
+        due.fault(3, "driver p :x;driver |p :y;");
+        due.fault(3, "device a :x in |a;");
+        due.fault(3, "device a :x in |b;device b :y;");
+        due.fault(3, "driver p :x;device a :x in |p;");
+        due.fault(1, "device a :x in |7;");
+        due.fault(1, "device a :x;device b :y in a |in a;");
+        due.fault(1, "device a :x;device b :y needs u |in a;");
+        due.fault(1, "device a :x needs |7;");
+        due.fault(1, "device a :x needs u |u;");
+        due.fault(1, "device a :x |or :y;");
+        due.fault(1, "device a :x |map 1;");
+        due.fault(4, "device a :x needs u needs v needs u |needs u;");
     }
 
     private static void faultsOfDrivers() {
         due.part("4 board, DRIVERS");
-        fault(1, "driver p |x;");
-        fault(1, "driver p |map 1;");
-        fault(1, "driver p :x or |or;");
-        fault(1, "driver p :x or |y;");
-        fault(1, "driver p :x |in a;");
-        fault(1, "driver p :x |needs u;");
-        fault(1, "driver p :x map 1 |or :y;");
-        fault(1, "driver p :x break |7;");
-        fault(1, "driver p :x get |7;");
-        fault(1, "driver p :x give |:u;");
-        fault(1, "driver p :x |get1 u;");
-        fault(1, "driver p:x*map |1;");
-        fault(4, "driver p :x or :y or :z |or :x;");
-        fault(4, "driver p :x break map 1 line 2 get u give v break |break;");
+        due.fault(1, "driver p |x;");
+        due.fault(1, "driver p |map 1;");
+        due.fault(1, "driver p :x or |or;");
+        due.fault(1, "driver p :x or |y;");
+        due.fault(1, "driver p :x |in a;");
+        due.fault(1, "driver p :x |needs u;");
+        due.fault(1, "driver p :x map 1 |or :y;");
+        due.fault(1, "driver p :x break |7;");
+        due.fault(1, "driver p :x get |7;");
+        due.fault(1, "driver p :x give |:u;");
+        due.fault(1, "driver p :x |get1 u;");
+        due.fault(1, "driver p:x*map |1;");
+        due.fault(4, "driver p :x or :y or :z |or :x;");
+        due.fault(4, "driver p :x break map 1 line 2 get u give v break |break;");
     }
 
     private static void faultsOfNumbers() {
         due.part("4 board, NUMBERS");
-        fault(2, "driver p :x map |0;");
-        fault(2, "driver p :x map |00;");
-        fault(1, "driver p :x map |100;");
-        fault(1, "driver p :x map |007;");
-        fault(1, "driver p :x map |1a;");
-        fault(1, "driver p :x map |u;");
-        fault(1, "driver p :x map |;");
-        fault(1, "driver p :x |map7;");
-        fault(2, "driver p :x line |16;");
-        fault(2, "driver p :x line |99;");
-        fault(1, "driver p :x line |160;");
+        due.fault(2, "driver p :x map |0;");
+        due.fault(2, "driver p :x map |00;");
+        due.fault(1, "driver p :x map |100;");
+        due.fault(1, "driver p :x map |007;");
+        due.fault(1, "driver p :x map |1a;");
+        due.fault(1, "driver p :x map |u;");
+        due.fault(1, "driver p :x map |;");
+        due.fault(1, "driver p :x |map7;");
+        due.fault(2, "driver p :x line |16;");
+        due.fault(2, "driver p :x line |99;");
+        due.fault(1, "driver p :x line |160;");
         due.board("driver p :x map 1 map 01 map 99 line 0 line 00 line 15;");
     }
 
@@ -175,20 +164,20 @@ public final class BoardTextTest {
             t.append("device ").append((char) ('a' + i)).append(":x;");
         }
         due.board(t.toString());
-        fault(4, t + "|device z :y;");
-        fault(4, t + "|device ;");
+        due.fault(4, t + "|device z :y;");
+        due.fault(4, t + "|device ;");
         StringBuilder r = new StringBuilder();
         for (int i = 0; i < 8; i++) {
             r.append("driver ").append((char) ('m' + i)).append(":x;");
         }
         due.board(t.toString() + r);
-        fault(4, r + "|driver z :y;");
-        fault(4, r + "device a :x;|driver");
+        due.fault(4, r + "|driver z :y;");
+        due.fault(4, r + "device a :x;|driver");
         String eight = "device a :x needs sa needs sb needs sc;driver p :x get sd give se get sf get sg give sh";
         due.board(eight + " get sa;");
-        fault(4, eight + " get |si;");
-        fault(4, eight + ";device b :x needs sa needs |si;");
-        fault(4, eight + ";driver q :x give |si;");
+        due.fault(4, eight + " get |si;");
+        due.fault(4, eight + ";device b :x needs sa needs |si;");
+        due.fault(4, eight + ";driver q :x give |si;");
     }
 
     private static void boardTakesTheTape() {

@@ -53,6 +53,28 @@ final class Due {
         return x;
     }
 
+    /** The text has a FAULT of this kind where its | stands; nothing of it is kept but an empty TAPE. */
+    void fault(int kind, String marked) {
+        fault(kind, marked.indexOf('|'), marked.replace("|", ""));
+    }
+
+    void fault(int kind, int place, String text) {
+        LateBinder x = new LateBinder();
+        is("board() of " + text, tell(x, text), -2 - (8 * place + kind));
+        is("count(10)", x.count(10), 0);
+        is("count(0)", x.count(0), 0);
+        is("count(1)", x.count(1), 0);
+    }
+
+    /** Two moments, or two objects, of which all that can be asked is the same. */
+    void alike(String call, Snapshot got, Snapshot want) {
+        String difference = got.differenceFrom(want);
+        if (!difference.isEmpty()) {
+            wrong++;
+            System.out.println(part + ": behind " + call + " " + difference);
+        }
+    }
+
     static int find(LateBinder x, String word, int what) {
         feed(x, word);
         return x.find(what);
