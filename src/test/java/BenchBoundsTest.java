@@ -18,12 +18,15 @@ public final class BenchBoundsTest {
         rescanBindsAllOrNone();
         passesOneByOne();
         noPassWithoutOneBound();
+        noPassBehindOneThatBound();
         forgetNoneOrMany();
         allLinksThereCanBe();
+        linkOfTheFirst();
         fullRow();
         rowKeepsPlaces();
         poolToItsLast();
         poolReleased();
+        poolOfAll();
         linesAtTheirBounds();
         suppliesAtTheirBounds();
         ownLineAndSupply();
@@ -34,6 +37,8 @@ public final class BenchBoundsTest {
         tryNextOnlyIfFailed();
         syncedByNone();
         syncedByEach();
+        syncedByTheFirst();
+        syncedAtTheEndOfEach();
         due.finish("BenchBoundsTest");
     }
 
@@ -285,6 +290,34 @@ public final class BenchBoundsTest {
         due.is("no pass", x.count(9), 5);
     }
 
+    /** A call by which one was BOUND is just behind us; the next one binds none. */
+    private static void noPassBehindOneThatBound() {
+        due.part("passes: none by what an earlier call bound");
+        String[] calls = {"add", "remove", "load", "unload", "unbind", "bind", "rescan"};
+        int[] written = {1, 1, 0, 0, 1, 1, 1};
+        for (int i = 0; i < calls.length; i++) {
+            LateBinder x = due.board("device a :a needs w;device b :b;device c :c;device d :d;driver p :a;driver q :b break;"
+                + "driver r :c;driver s :zz break;driver t :zz;");
+            for (int r = 0; r < 4; r++) {
+                x.load(r);
+            }
+            x.add(0);
+            x.add(3);
+            due.is("add(2)", x.add(2), 3);
+            due.is("PUT OFF, BOUND, PUT OFF by the pass", x.count(9), 3);
+            switch (i) {
+                case 0: x.add(1); break;
+                case 1: x.remove(2); break;
+                case 2: x.load(4); break;
+                case 3: x.unload(3); break;
+                case 4: x.unbind(2); break;
+                case 5: x.bind(3, 3); break;
+                default: x.rescan(); break;
+            }
+            due.is("rows written by " + calls[i], x.count(9), 3 + written[i]);
+        }
+    }
+
     private static void forgetNoneOrMany() {
         due.part("12 forget: none, 1, 11");
         LateBinder x = freed();
@@ -336,6 +369,7 @@ public final class BenchBoundsTest {
             due.is("links(" + d + ", 3)", x.links(d, 3), ALL & ~((1 << d + 1) - 1));
             due.is("links(" + d + ", 4)", x.links(d, 4), (1 << d) - 1);
         }
+        due.is("none from the first one", x.links(0, 2), 0);
         x.bind(11, 0);
         due.is("each is ABOVE the last", x.bind(0, 1), 1);
         due.reason(x, 0, 3, 11);
@@ -344,6 +378,22 @@ public final class BenchBoundsTest {
         x.remove(11);
         x.add(11);
         due.is("AWAY and back: they stay", x.count(7), 66);
+    }
+
+    private static void linkOfTheFirst() {
+        due.part("LINKS: from the first to the last");
+        LateBinder x = freed();
+        x.bind(11, 0);
+        due.is("bind(0, 1)", x.bind(0, 1), 3);
+        due.is("count(7)", x.count(7), 1);
+        due.is("links(0, 2)", x.links(0, 2), 1 << 11);
+        due.is("links(11, 3)", x.links(11, 3), 1);
+        due.is("links(11, 1)", x.links(11, 1), 1);
+        due.is("links(0, 4)", x.links(0, 4), 1 << 11);
+        due.is("forget(0)", x.forget(0), 0);
+        x.unbind(11);
+        due.is("forget(0)", x.forget(0), 1);
+        due.is("count(7)", x.count(7), 0);
     }
 
     private static void fullRow() {
@@ -427,6 +477,24 @@ public final class BenchBoundsTest {
         due.is("unbind(0)", x.unbind(0), 1);
         due.logEnds(x, 7, 0, 49, 7, 0, 50, 4, 0, 5);
         due.is("count(3)", x.count(3), 99);
+    }
+
+    private static void poolOfAll() {
+        due.part("POOL: 6 STEPS of each of 8 DRIVERS");
+        StringBuilder text = new StringBuilder();
+        for (int d = 0; d < 8; d++) {
+            text.append("device d").append(Boards.letter(d)).append(":").append(d).append(";driver r").append(Boards.letter(d));
+            text.append(":").append(d).append(" map 1".repeat(Math.min(d, 6))).append(d < 6 ? " map 9;" : ";");
+        }
+        LateBinder x = Boards.started(due, text.toString());
+        int sum = 0;
+        for (int d = 0; d < 8; d++) {
+            int want = d < 6 ? d + 9 : 6;
+            sum += want;
+            due.is("device(" + d + ", 8)", x.device(d, 8), want);
+            due.is("driver(" + d + ", 1)", x.driver(d, 1), Math.min(d + 1, 6));
+        }
+        due.is("count(3)", x.count(3), 99 - sum);
     }
 
     private static void linesAtTheirBounds() {
@@ -637,5 +705,73 @@ public final class BenchBoundsTest {
         x.load(2);
         due.is("all are BOUND", x.count(8), 1);
         due.states(x, "3331");
+    }
+
+    private static void syncedByTheFirst() {
+        due.part("SYNCED: the first and the last DEVICE count, too");
+        LateBinder x = Boards.started(due, "device a :a needs u;device b :b;device c :c needs v;driver p :b give u give v;");
+        due.states(x, "131");
+        due.is("count(8)", x.count(8), 0);
+        x.remove(2);
+        due.is("the first is IDLE", x.count(8), 0);
+        x.add(2);
+        x.remove(0);
+        due.is("the last is IDLE", x.count(8), 0);
+        x.remove(2);
+        due.is("both are AWAY", x.count(8), 2);
+    }
+
+    /** A LINK of an IDLE one kept the first DEVICE from being SYNCED; it is forgotten, no call came since. */
+    private static LateBinder nearlySynced(boolean third) {
+        LateBinder x = due.board("device a :a;device b :b;device c :c;driver p :a give u;driver q :zz get u;driver r :c;driver s :d;");
+        for (int r = 0; r < 3; r++) {
+            x.load(r);
+        }
+        x.add(0);
+        x.add(1);
+        x.bind(1, 1);
+        x.unbind(0);
+        x.bind(0, 0);
+        if (third) {
+            x.add(2);
+        }
+        due.states(x, third ? "313" : "310");
+        due.is("not SYNCED by its LINK", x.count(8), 0);
+        due.is("forget(1)", x.forget(1), 1);
+        due.is("not SYNCED by forget()", x.count(8), 0);
+        return x;
+    }
+
+    private static void syncedAtTheEndOfEach() {
+        due.part("SYNCED: at the end of add() to rescan()");
+        for (int call = 0; call < 7; call++) {
+            LateBinder x = nearlySynced(call != 0);
+            due.is("call " + call + " is not refused", change(x, call) >= 0 ? 1 : 0, 1);
+            due.is("SYNCED by call " + call, x.count(8), 1);
+            due.logEnds(x, 5, 0, -1);
+        }
+        due.part("SYNCED: not if refused");
+        LateBinder x = nearlySynced(true);
+        due.is("add", x.add(0), -1);
+        due.is("remove", x.remove(3), -1);
+        due.is("load", x.load(0), -1);
+        due.is("unload", x.unload(3), -1);
+        due.is("unbind", x.unbind(1), -1);
+        due.is("bind", x.bind(0, 0), -1);
+        due.is("count(8)", x.count(8), 0);
+        due.is("nor by a question", x.would(1, 0), 1);
+        due.is("count(8)", x.count(8), 0);
+    }
+
+    private static int change(LateBinder x, int call) {
+        switch (call) {
+            case 0: return x.add(2);
+            case 1: return x.remove(2);
+            case 2: return x.load(3);
+            case 3: return x.unload(2);
+            case 4: return x.unbind(2);
+            case 5: return x.bind(1, 2);
+            default: return x.rescan();
+        }
     }
 }

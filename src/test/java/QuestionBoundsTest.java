@@ -25,6 +25,7 @@ public final class QuestionBoundsTest {
         wanted();
         wantedAllEight();
         wantedInEachState();
+        wantedWithoutAPass();
         supply();
         taken();
         logBounds();
@@ -411,6 +412,30 @@ public final class QuestionBoundsTest {
         due.is("all are LOADED: by none", x.wanted(0, 0), -1);
         x.unload(0);
         due.wanted(x, 1, 1, 1);
+    }
+
+    /** The third DEVICE was BOUND by another DRIVER than its own, which would bind it as soon as it is TRIED. */
+    private static void wantedWithoutAPass() {
+        due.part("21 wanted: as load() does, with no pass if none is BOUND");
+        LateBinder x = due.board("device a :a;device b :b;device c :c;driver p :zz;driver q :a give u;driver r :c;"
+            + "driver s :zz get u;driver t :b;driver u :zz;");
+        x.load(1);
+        x.load(3);
+        for (int d = 0; d < 3; d++) {
+            x.add(d);
+        }
+        due.is("bind(2, 3)", x.bind(2, 3), 3);
+        x.load(2);
+        due.is("unbind(0)", x.unbind(0), 2);
+        due.states(x, "112");
+        due.is("would", x.would(0, 2), 2);
+        due.wanted(x, 2, 1, 1 << 4);
+        due.is("load(0)", x.load(0), 0);
+        due.states(x, "112");
+        due.is("load(5)", x.load(5), 0);
+        due.states(x, "112");
+        due.is("load(4)", x.load(4), 2);
+        due.states(x, "133");
     }
 
     private static void supply() {

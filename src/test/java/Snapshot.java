@@ -1,7 +1,7 @@
 import java.util.ArrayList;
 import java.util.List;
 
-/** The answers to all that can be asked of an object: of its board's own numbers, and one beyond them. */
+/** The answers to all that can be asked of an object, so that two objects, or two moments, can be compared. */
 final class Snapshot {
     /** The document leaves free what an object answers behind its 512th call. */
     private static final int CALLS_OF_AN_OBJECT = 512;

@@ -19,6 +19,7 @@ public final class TapeBoundsTest {
         boardRefusedChangesNothingElse();
         boardFaultChangesNothingElse();
         boardIsAnotherOne();
+        boardBehindOthers();
         findByLength();
         findTheLastOnes();
         findAllOfTheTape();
@@ -252,6 +253,46 @@ public final class TapeBoundsTest {
         due.is("the same names again", Due.tell(x, text), 4);
         due.is("find a", Due.find(x, "a", 0), -1);
         due.is("find k", Due.find(x, "k", 0), 0);
+    }
+
+    private static final String RICH = "device a :x needs u needs v needs w;device b :x in a needs u;device c :x in b;"
+        + "device d :x in c;driver p :* or :x or :? give u get v map 3 line 4 give w;driver q :* give v;"
+        + "driver r :x map 9 map 8 map 7 map 6 map 5 map 4;";
+    private static final String OTHER = "device e :x;device f :x in e needs z;device g :x needs y;device h :x in f;"
+        + "driver s :? give z line 1 line 2;driver t :x get z give y;driver u :* or :x break;";
+    private static final String POOR = "device i :x;device j :y needs u;device k :x;device l :x needs v;driver m :x;driver n :z;driver o :y line 3;";
+
+    /** What was told, taken and written ahead of it does not come through. */
+    private static void boardBehindOthers() {
+        due.part("4 board: nothing of the BOARDS that were");
+        String[][] rows = {{RICH, OTHER, POOR}, {OTHER, RICH, POOR}, {RICH, POOR}, {RICH, RICH + ";", POOR},
+            {RICH + ";", POOR}, {POOR, RICH, OTHER}, {OTHER + "device", OTHER, RICH}, {RICH, OTHER, ""}};
+        for (String[] texts : rows) {
+            String last = texts[texts.length - 1];
+            LateBinder x = new LateBinder();
+            for (String text : texts) {
+                start(x);
+                Due.tell(x, text);
+            }
+            due.alike("board()", Snapshot.of(x), Snapshot.of(due.board(last)));
+            LateBinder y = due.board(last);
+            LateBinder z = new LateBinder();
+            for (String text : texts) {
+                Due.tell(z, text);
+                start(z);
+            }
+            start(y);
+            due.alike("load() and add()", Snapshot.of(z), Snapshot.of(y));
+        }
+    }
+
+    private static void start(LateBinder x) {
+        for (int i = 0; i < 3; i++) {
+            x.load(i);
+        }
+        for (int i = 0; i < 4; i++) {
+            x.add(i);
+        }
     }
 
     private static void findByLength() {

@@ -35,6 +35,7 @@ public final class TextBoundsTest {
         matching();
         matchingByLength();
         scores();
+        patternsOfAll();
         equalScores();
         due.finish("TextBoundsTest");
     }
@@ -463,6 +464,11 @@ public final class TextBoundsTest {
                 boolean can = (" " + row[1] + " ").contains(" " + token + " ");
                 due.is("whether FAULT 1 is at the end of " + ahead + token, got == faultAt(place, 1) ? 1 : 0, can ? 0 : 1);
             }
+            for (String none : new String[] {"$", "A", "_", "\u00ff", "\t", "\0", "abcdefgh", "1a", "a1", "123", ":", ":abcdefghi",
+                "?", "*", "/", "-1", "\r"}) {
+                due.fault(1, ahead.length(), ahead + none);
+                due.fault(1, ahead.length(), ahead + none + " :x;");
+            }
         }
     }
 
@@ -531,6 +537,24 @@ public final class TextBoundsTest {
         due.is("the third of three", score("abc", "* a* abc"), 3);
         due.is("one that does not MATCH does not count", score("abc", "abcd ??? abd"), 0);
         due.is("the last one alone MATCHES", score("abc", "b c ?bc"), 2);
+    }
+
+    private static void patternsOfAll() {
+        due.part("3 PATTERNS of each of 8 DRIVERS");
+        StringBuilder text = new StringBuilder();
+        for (int d = 0; d < 12; d++) {
+            text.append("device d").append(Boards.letter(d)).append(":").append(Boards.letter(d)).append(";");
+        }
+        for (int r = 0; r < 8; r++) {
+            char own = Boards.letter(r);
+            text.append("driver r").append(own).append(":").append(own).append(" or:z or:").append(own).append("*;");
+        }
+        LateBinder x = due.board(text.toString());
+        for (int r = 0; r < 8; r++) {
+            for (int d = 0; d < 12; d++) {
+                due.is("score(" + r + ", " + d + ")", x.score(r, d), r == d ? 1 : -1);
+            }
+        }
     }
 
     private static void equalScores() {
