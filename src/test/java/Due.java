@@ -19,6 +19,10 @@ final class Due {
         }
     }
 
+    boolean isFine() {
+        return wrong == 0;
+    }
+
     void finish(String what) {
         System.out.println(wrong == 0 ? what + ": all answers are as due" : wrong + " answers are not as due");
         if (wrong != 0) {
