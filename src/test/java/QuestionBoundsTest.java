@@ -36,6 +36,9 @@ public final class QuestionBoundsTest {
         high();
         lacks();
         waits();
+        waitsForItsParent();
+        givesOfOneDriver();
+        aboveByTwoWays();
         due.finish("QuestionBoundsTest");
     }
 
@@ -660,5 +663,43 @@ public final class QuestionBoundsTest {
         x.unload(0);
         due.is("for none", x.links(0, 6), 0);
         due.is("none in LINE, but its needs", x.links(11, 6), 1);
+    }
+
+    private static void waitsForItsParent() {
+        due.part("WAITS: for its PARENT, if that is not BOUND");
+        LateBinder x = due.board("device a :a;device b :b in a;device c :b in b;driver p :a;driver q :b break;");
+        x.add(0);
+        x.add(1);
+        x.add(2);
+        due.is("the PARENT is IDLE", x.links(1, 6), 1);
+        x.load(1);
+        due.is("it is DEFERRED itself", x.links(1, 6), 1);
+        due.is("the PARENT is DEFERRED", x.links(2, 6), 2);
+        x.load(0);
+        due.is("the PARENT is BOUND", x.links(1, 6), 0);
+        due.is("the PARENT FAILED", x.links(2, 6), 2);
+        x.unbind(0);
+        due.is("the PARENT is LET GO", x.links(1, 6), 1);
+    }
+
+    private static void givesOfOneDriver() {
+        due.part("a DRIVER with several gives: each counts");
+        LateBinder x = Boards.started(due, "device a :a;device b :b needs u;device c :b needs v;device d :b needs w;"
+            + "driver p :a get z give u give v give w;driver q :b;");
+        for (int s = 0; s < 3; s++) {
+            due.is("supply(" + s + ", 2)", x.supply(s, 2), 1);
+            due.is("links(" + (s + 1) + ", 6)", x.links(s + 1, 6), 1);
+        }
+        due.is("a get is no give", x.supply(3, 2), 0);
+    }
+
+    private static void aboveByTwoWays() {
+        due.part("ABOVE: by each of two that it CONSUMES, and what is ABOVE these");
+        LateBinder x = Boards.started(due, "device a :n;device b :n;device c :c in a;device d :d in b;device e :e;"
+            + "driver p :n;driver q :c give u;driver r :d give v;driver s :e get u get v;");
+        due.states(x, "33333");
+        due.is("links(4, 2)", x.links(4, 2), 12);
+        due.is("links(4, 4)", x.links(4, 4), 15);
+        due.is("links(3, 4)", x.links(3, 4), 2);
     }
 }
